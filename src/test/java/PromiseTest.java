@@ -363,7 +363,6 @@ public final class PromiseTest {
         due("what came back", x.local(0, 1), 20);
         due("stepOver an exit", x.stepOver(300), 1);
         due("EXITED before the goal", x.state(), WovenDebugger.EXITED);
-        x.start(5);
         x.start(1);
         x.stepInto();
         x.stepInto();
