@@ -1,51 +1,53 @@
 import java.util.ArrayList;
+import java.util.Arrays;
 import java.util.List;
 import java.util.Map;
 import java.util.TreeMap;
 
 /**
- * Runs of up to 512 mixed calls, from fixed seeds, on a WovenDebugger and on a second model of the
- * document that is written over lists and objects, so that a slip in one of them shows.
+ * Runs of 512 mixed calls, from fixed seeds, on a WovenDebugger and on a second model of the document
+ * that is written over lists and objects, so that a slip in one of them shows. No object is used
+ * for more calls, since what later ones answer is free.
  */
-public final class ModelTest {
-    private static final int RUNS = 4000;
+public final class ModelTest extends Checks {
+    private static final int RUNS = 12000;
     private static final int CALLS = 512;
+    private static final int FIRST_LOOK = 9;
+    private static final String[] NAMES = {
+        "emit", "start", "setBreak", "clearBreak", "resume", "stepInto", "stepOver", "stepOut", "setLocal",
+        "state", "depth", "counter", "local", "outputs", "output", "skip"};
+    // How often each of the calls that change something comes, once the program has been emitted
+    private static final int[] WEIGHTS = {1, 3, 5, 2, 6, 6, 6, 6, 5};
     private static final int[] WILD = {
-        Integer.MIN_VALUE, Integer.MIN_VALUE + 1, -300, -4, -1, 19, 20, 21, 100, 101, 299, 300, 301,
-        Integer.MAX_VALUE - 1, Integer.MAX_VALUE};
+        MIN, MIN + 1, -300, -4, -1, 7, 8, 19, 20, 21, 99, 100, 101, 299, 300, 301, MAX - 1, MAX};
 
     private static long seed;
-    private static int wrong = 0;
+    private static boolean agrees = true;
 
     public static void main(String[] args) {
-        for (int run = 1; run <= RUNS && wrong == 0; run++) {
+        for (int run = 1; run <= RUNS && agrees; run++) {
             seed = run * 7919L;
             compare(run);
         }
-        System.out.println(wrong == 0 ? "the class and the model agree" : wrong + " answers differ");
-        if (wrong != 0) {
-            System.exit(1);
-        }
+        finish();
     }
 
     private static void compare(int run) {
         WovenDebugger x = new WovenDebugger();
         Model model = new Model();
         int length = 1 + next(21);
+        int looksOfTen = run % 3 == 0 ? 1 : 8;
         StringBuilder told = new StringBuilder();
-        for (int call = 0; call < CALLS && wrong == 0; call++) {
-            int which = call < length ? 0 : next(40);
-            int[] given = arguments(which, length);
-            int got = ask(x, which, given);
-            int want = model.ask(which, given);
-            told.append("  call ").append(which).append(java.util.Arrays.toString(given)).append(" -> ").append(got)
-                .append('\n');
-            String seen = look(x);
-            String due = model.look();
-            if (got != want || !seen.equals(due)) {
-                wrong++;
+        for (int call = 0; call < CALLS && agrees; call++) {
+            int kind = call < length ? 0 : next(10) < looksOfTen ? FIRST_LOOK + next(7) : weighted();
+            int[] given = arguments(kind, length);
+            int got = ask(x, kind, given);
+            int want = model.ask(kind, given);
+            told.append("  ").append(NAMES[kind]).append(Arrays.toString(given)).append(" -> ").append(got).append('\n');
+            if (got != want) {
+                agrees = false;
                 System.out.print(told);
-                System.out.println("run " + run + ": due was " + want + "\n  seen " + seen + "\n  due  " + due);
+                due("run " + run + ": the last call", got, want);
             }
         }
     }
@@ -55,73 +57,59 @@ public final class ModelTest {
         return (int) ((seed >>> 33) % bound);
     }
 
+    private static int weighted() {
+        int left = next(Arrays.stream(WEIGHTS).sum());
+        int kind = 0;
+        while (left >= WEIGHTS[kind]) {
+            left -= WEIGHTS[kind];
+            kind++;
+        }
+        return kind;
+    }
+
     private static int wildOr(int usual) {
         return next(25) == 0 ? WILD[next(WILD.length)] : usual;
     }
 
-    private static int[] arguments(int which, int length) {
-        if (which == 0) {
-            int op = next(30) == 0 ? wildOr(11) : next(11);
-            return new int[] {op, wildOr(next(16)), op == 0 ? wildOr(next(4) - 1) : wildOr(next(length))};
-        }
-        if (which <= 3) {
-            return new int[] {wildOr(next(length)), 0, 0};
-        }
-        if (which <= 8) {
-            return new int[] {wildOr(next(length)), wildOr(next(4)), 0};
-        }
-        if (which <= 10) {
-            return new int[] {wildOr(next(length)), 0, 0};
-        }
-        if (which <= 16) {
-            return new int[] {wildOr(next(4)), wildOr(next(7) - 3), 0};
-        }
-        return new int[] {wildOr(next(12)), 0, 0};
-    }
-
-    private static int ask(WovenDebugger x, int which, int[] g) {
-        if (which == 0) {
-            return x.emit(g[0], g[1], g[2]);
-        }
-        if (which <= 3) {
-            return x.start(g[0]);
-        }
-        if (which <= 8) {
-            return x.setBreak(g[0], g[1]);
-        }
-        if (which <= 10) {
-            return x.clearBreak(g[0]);
-        }
-        if (which <= 16) {
-            return x.setLocal(g[0], g[1]);
-        }
-        switch (which % 4) {
-            case 0: return x.resume(g[0]);
-            case 1: return x.stepInto();
-            case 2: return x.stepOver(g[0]);
-            default: return x.stepOut(g[0]);
+    private static int[] arguments(int kind, int length) {
+        switch (kind) {
+            case 0:
+                int op = next(30) == 0 ? wildOr(11) : next(11);
+                return new int[] {op, wildOr(next(16)), op == 0 ? wildOr(next(4) - 1) : wildOr(next(length))};
+            case 2:
+                return new int[] {wildOr(next(length)), wildOr(next(4))};
+            case 1: case 3: case 15:
+                return new int[] {wildOr(next(length))};
+            case 8:
+                return new int[] {wildOr(next(4)), wildOr(next(7) - 3)};
+            case 12:
+                return new int[] {wildOr(next(3)), wildOr(next(4))};
+            case 11: case 14:
+                return new int[] {wildOr(next(9))};
+            default:
+                return new int[] {wildOr(next(12))};
         }
     }
 
-    /** All that the calls that change nothing answer. */
-    private static String look(WovenDebugger x) {
-        StringBuilder s = new StringBuilder();
-        s.append(x.state()).append(" depth ").append(x.depth()).append(" outputs ").append(x.outputs());
-        for (int level = -1; level <= 6; level++) {
-            s.append(" | ").append(x.counter(level)).append(':');
-            for (int i = -1; i <= 4; i++) {
-                s.append(' ').append(x.local(level, i));
-            }
+    private static int ask(WovenDebugger x, int kind, int[] g) {
+        switch (kind) {
+            case 0: return x.emit(g[0], g[1], g[2]);
+            case 1: return x.start(g[0]);
+            case 2: return x.setBreak(g[0], g[1]);
+            case 3: return x.clearBreak(g[0]);
+            case 4: return x.resume(g[0]);
+            case 5: return x.stepInto();
+            case 6: return x.stepOver(g[0]);
+            case 7: return x.stepOut(g[0]);
+            case 8: return x.setLocal(g[0], g[1]);
+            case 9: return x.state();
+            case 10: return x.depth();
+            case 11: return x.counter(g[0]);
+            case 12: return x.local(g[0], g[1]);
+            case 13: return x.outputs();
+            case 14: return x.output(g[0]);
+            default: return x.skip(g[0]);
         }
-        s.append(" | out");
-        for (int back = -1; back <= 8; back++) {
-            s.append(' ').append(x.output(back));
-        }
-        s.append(" | skips");
-        for (int p = -1; p <= 20; p++) {
-            s.append(' ').append(x.skip(p));
-        }
-        return s.toString();
     }
 
     private static final class Frame {
@@ -137,24 +125,35 @@ public final class ModelTest {
         final List<Integer> output = new ArrayList<>();
         int state = 0;
 
-        int ask(int which, int[] g) {
-            if (which == 0) {
-                return emit(g);
-            }
+        int ask(int kind, int[] g) {
             boolean known = g[0] >= 0 && g[0] < program.size();
-            if (which <= 3) {
-                return known ? start(g[0]) : -3;
+            switch (kind) {
+                case 0: return emit(g);
+                case 1: return known ? start(g[0]) : -3;
+                case 2: return known ? setBreak(g[0], g[1]) : -3;
+                case 3: return breaks.remove(g[0]) == null ? -3 : breaks.size();
+                case 4: case 5: case 6: case 7: return command(kind, Math.max(1, Math.min(300, g[0])));
+                case 8: return setLocal(g[0], g[1]);
+                case 9: return state;
+                case 10: return frames.size();
+                case 11: return stands(g[0]) ? frames.get(frames.size() - 1 - g[0]).counter : -3;
+                case 12: return stands(g[0]) && isLocal(g[1]) ? frames.get(frames.size() - 1 - g[0]).locals[g[1]] : 0;
+                case 13: return output.size();
+                case 14: return isKept(g[0]) ? output.get(output.size() - 1 - g[0]) : 0;
+                default: return breaks.getOrDefault(g[0], -3);
             }
-            if (which <= 8) {
-                return known ? setBreak(g[0], g[1]) : -3;
-            }
-            if (which <= 10) {
-                return breaks.remove(g[0]) == null ? -3 : breaks.size();
-            }
-            if (which <= 16) {
-                return setLocal(g[0], g[1]);
-            }
-            return command(which % 4, Math.max(1, Math.min(300, g[0])));
+        }
+
+        boolean stands(int level) {
+            return level >= 0 && level < frames.size();
+        }
+
+        boolean isLocal(int i) {
+            return i >= 0 && i <= 3;
+        }
+
+        boolean isKept(int back) {
+            return back >= 0 && back <= 7 && back < output.size();
         }
 
         int emit(int[] g) {
@@ -192,7 +191,7 @@ public final class ModelTest {
             if (frames.isEmpty()) {
                 return -4;
             }
-            if (i < 0 || i > 3) {
+            if (!isLocal(i)) {
                 return -3;
             }
             top().locals[i] = value;
@@ -213,7 +212,7 @@ public final class ModelTest {
                 int end = carryOut();
                 done++;
                 int now = frames.size();
-                boolean goal = kind == 1 || kind == 2 && now <= before || kind == 3 && now < before;
+                boolean goal = kind == 5 || kind == 6 && now <= before || kind == 7 && now < before;
                 if (end != 0) {
                     state = end;
                     return done;
@@ -277,29 +276,6 @@ public final class ModelTest {
                 default -> output.add(l[a]);
             }
             return top().counter >= 0 && top().counter < program.size() ? 0 : 6;
-        }
-
-        String look() {
-            StringBuilder s = new StringBuilder();
-            s.append(state).append(" depth ").append(frames.size()).append(" outputs ").append(output.size());
-            for (int level = -1; level <= 6; level++) {
-                boolean stands = level >= 0 && level < frames.size();
-                Frame f = stands ? frames.get(frames.size() - 1 - level) : null;
-                s.append(" | ").append(stands ? f.counter : -3).append(':');
-                for (int i = -1; i <= 4; i++) {
-                    s.append(' ').append(stands && i >= 0 && i < 4 ? f.locals[i] : 0);
-                }
-            }
-            s.append(" | out");
-            for (int back = -1; back <= 8; back++) {
-                boolean kept = back >= 0 && back <= 7 && back < output.size();
-                s.append(' ').append(kept ? output.get(output.size() - 1 - back) : 0);
-            }
-            s.append(" | skips");
-            for (int p = -1; p <= 20; p++) {
-                s.append(' ').append(breaks.getOrDefault(p, -3));
-            }
-            return s.toString();
         }
     }
 }

@@ -1,21 +1,5 @@
 /** Each promise of the document: ordinary calls, the edges that it names, and wrong inputs. */
-public final class PromiseTest {
-    private static final int SET = 0;
-    private static final int MOVE = 1;
-    private static final int ADD = 2;
-    private static final int SUB = 3;
-    private static final int MUL = 4;
-    private static final int JUMP = 5;
-    private static final int JLESS = 6;
-    private static final int JZERO = 7;
-    private static final int CALL = 8;
-    private static final int RETURN = 9;
-    private static final int OUT = 10;
-    private static final int MIN = Integer.MIN_VALUE;
-    private static final int MAX = Integer.MAX_VALUE;
-
-    private static int wrong = 0;
-
+public final class PromiseTest extends Checks {
     public static void main(String[] args) {
         newObject();
         emitAppends();
@@ -53,44 +37,7 @@ public final class PromiseTest {
         returnsOutOfTheProgram();
         sevenFrames();
         longUse();
-        System.out.println(wrong == 0 ? "all promises hold" : wrong + " answers are not as due");
-        if (wrong != 0) {
-            System.exit(1);
-        }
-    }
-
-    private static void due(String what, int got, int want) {
-        if (got != want) {
-            wrong++;
-            System.out.println(what + " answered " + got + ", due is " + want);
-        }
-    }
-
-    /** An object with a program of rows of op, a and b; not started. */
-    private static WovenDebugger program(int... rows) {
-        WovenDebugger x = new WovenDebugger();
-        for (int i = 0; i < rows.length; i += 3) {
-            due("emit of row " + i / 3, x.emit(rows[i], rows[i + 1], rows[i + 2]), i / 3);
-        }
-        return x;
-    }
-
-    private static WovenDebugger started(int... rows) {
-        WovenDebugger x = program(rows);
-        due("start(0)", x.start(0), 0);
-        return x;
-    }
-
-    private static void dueLocals(String what, WovenDebugger x, int level, int... want) {
-        for (int i = 0; i < 4; i++) {
-            due(what + ": local(" + level + ", " + i + ")", x.local(level, i), want[i]);
-        }
-    }
-
-    private static void dueAt(String what, WovenDebugger x, int state, int depth, int counter) {
-        due(what + ": state", x.state(), state);
-        due(what + ": depth", x.depth(), depth);
-        due(what + ": counter", x.counter(0), counter);
+        finish();
     }
 
     // Promise 1, and what promises 11 to 17 answer of a new object
