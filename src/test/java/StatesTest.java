@@ -208,6 +208,9 @@ public final class StatesTest extends Checks {
         due(what + ": look after it", look(x), look(twin));
         due(what + ": run on", runOn(x), runOn(twin));
         due(what + ": breakpoints", countBreaks(x), countBreaks(twin));
+        if (machine.state == WovenDebugger.NONE && machine.size < 20) {
+            due(what + ": emit after it", x.emit(OUT, 1, 1), twin.emit(OUT, 1, 1));
+        }
         due(what + ": program", tryEachInstruction(x), tryEachInstruction(twin));
     }
 
@@ -227,9 +230,12 @@ public final class StatesTest extends Checks {
 
     private static String tryEachInstruction(WovenDebugger x) {
         StringBuilder s = new StringBuilder();
-        s.append(x.emit(OUT, 1, 1));
         for (int p = 0; p < 20; p++) {
-            s.append(", ").append(x.start(p)).append(' ').append(x.stepInto()).append(' ').append(briefly(x));
+            s.append(x.start(p));
+            for (int i = 0; i < 4; i++) {
+                x.setLocal(i, 30 + i);
+            }
+            s.append(' ').append(x.stepInto()).append(' ').append(briefly(x)).append(", ");
         }
         return s.toString();
     }
