@@ -107,6 +107,8 @@ public final class LanguageTest extends TreePathScanner<Void, Void> {
         Set<Modifier> flags = field.getModifiers().getFlags();
         boolean constant = flags.contains(Modifier.STATIC);
         unless(flags.contains(Modifier.PRIVATE) || constant && flags.contains(Modifier.PUBLIC), 1, field);
+        unless(flags.contains(Modifier.FINAL) || !(field.getType() instanceof ArrayTypeTree), 4,
+            "an array field that could be assigned to: " + field);
         if (!constant) {
             fields++;
             return;
@@ -139,13 +141,18 @@ public final class LanguageTest extends TreePathScanner<Void, Void> {
         (isPublic ? publicMethods : privateMethods).add(method);
         calls.computeIfAbsent(method, name -> new TreeSet<>());
         unless(node.getParameters().size() <= MOST_PARAMETERS, 10, method + " has too many parameters");
-        unless(node.getReturnType() == null || !(node.getReturnType() instanceof ArrayTypeTree), 4,
-            method + " answers an array");
+        Tree answer = node.getReturnType();
+        unless(!(answer instanceof ArrayTypeTree), 4, method + " answers an array");
+        unless(answer instanceof ArrayTypeTree || isNumberOrNothing(answer), 2, method + " answers a " + answer);
         unless(node.getThrows().isEmpty(), 6, method + " throws");
         unless(linesOf(node) <= MOST_LINES, 10, method + " is too long");
         super.visitMethod(node, v);
         method = null;
         return null;
+    }
+
+    private boolean isNumberOrNothing(Tree type) {
+        return type == null || type.toString().equals("void") || isNumber(type);
     }
 
     private long linesOf(Tree node) {
